@@ -678,13 +678,8 @@ public final class ForestLegs {
             return sign >= 'a' && sign <= 'z';
         }
 
-        /** The WORD of the letters from one place up to another one. */
-        int wordOf(int from, int to) {
-            int word = NO_WORD;
-            for (int i = from; i < to; i++) {
-                word = word << 5 | (byteAt(i) & 31);
-            }
-            return word;
+        static int longer(int word, int letter) {
+            return word << 5 | (letter & 31);
         }
 
         /** The only WORD in the first n bytes, NO_WORD if there is anything else but blanks. */
@@ -700,12 +695,14 @@ public final class ForestLegs {
             if (to - from > LONGEST_WORD) {
                 return NO_WORD;
             }
+            int word = NO_WORD;
             for (int i = from; i < to; i++) {
                 if (!isLetter(byteAt(i))) {
                     return NO_WORD;
                 }
+                word = longer(word, byteAt(i));
             }
-            return wordOf(from, to);
+            return word;
         }
     }
 
@@ -746,15 +743,24 @@ public final class ForestLegs {
             this.meet = meet;
         }
 
+        /** False, if there is a FAULT: found and place tell it then. */
         boolean read(int n) {
-            meet.clear();
-            end = n;
-            next = 0;
-            found = 0;
-            widthsTold = 0;
+            begin(n);
             for (int line = 0; line <= n; line++) {
                 advance();
-                if (!readLine()) {
+                boolean sound = false;
+                if (isWord(COURSE_WORD)) {
+                    sound = readCourse();
+                } else if (isWord(RUNNER_WORD)) {
+                    sound = readRunner();
+                } else if (isWord(GAP_WORD)) {
+                    sound = readWidth(GAP);
+                } else if (isWord(SLACK_WORD)) {
+                    sound = readWidth(SLACK);
+                } else {
+                    failed(FORM);
+                }
+                if (!sound) {
                     return false;
                 }
                 if (kind == END) {
@@ -765,6 +771,14 @@ public final class ForestLegs {
                 }
             }
             return failed(FORM);
+        }
+
+        private void begin(int n) {
+            meet.clear();
+            end = n;
+            next = 0;
+            found = 0;
+            widthsTold = 0;
         }
 
         private boolean failed(int fault) {
@@ -796,11 +810,12 @@ public final class ForestLegs {
         }
 
         private void readWord() {
+            value = Tape.NO_WORD;
             while (next < end && Tape.isLetter(tape.byteAt(next))) {
+                value = Tape.longer(value, tape.byteAt(next));
                 next++;
             }
             kind = next - place <= Tape.LONGEST_WORD ? WORD : NO_TOKEN;
-            value = tape.wordOf(place, next);
         }
 
         private void readWhole() {
@@ -810,22 +825,6 @@ public final class ForestLegs {
                 next++;
             }
             kind = next - place <= LONGEST_WHOLE ? WHOLE : NO_TOKEN;
-        }
-
-        private boolean readLine() {
-            if (kind != WORD) {
-                return failed(FORM);
-            }
-            if (value == COURSE_WORD) {
-                return readCourse();
-            }
-            if (value == RUNNER_WORD) {
-                return readRunner();
-            }
-            if (value == GAP_WORD) {
-                return readWidth(GAP);
-            }
-            return value == SLACK_WORD ? readWidth(SLACK) : failed(FORM);
         }
 
         private boolean readCourse() {
@@ -935,8 +934,12 @@ public final class ForestLegs {
             return (value >= least && value <= most) || failed(BOUNDS);
         }
 
+        private boolean isWord(int word) {
+            return kind == WORD && value == word;
+        }
+
         private boolean isName() {
-            boolean kept = value == COURSE_WORD || value == RUNNER_WORD || value == GAP_WORD || value == SLACK_WORD;
+            boolean kept = isWord(COURSE_WORD) || isWord(RUNNER_WORD) || isWord(GAP_WORD) || isWord(SLACK_WORD);
             return (kind == WORD && !kept) || failed(FORM);
         }
 
