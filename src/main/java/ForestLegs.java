@@ -1801,7 +1801,7 @@ public final class ForestLegs {
 
     /** PACKS at one CODE at a time. */
     private static final class Packs {
-        private static final int MOST = MOST_RUNNERS * MOST_PUNCHES;
+        private static final int MOST = MOST_RUNNERS * MOST_CONTROLS;
 
         private final Meet meet;
         private final int[] times = new int[MOST];

@@ -90,6 +90,9 @@ final class ActsTest {
         check.due("41: total of it", x.runner(5, 3), 1);
         check.answered("41: as it is", x, x.start(5, 159), 159);
         check.due("41: that is an act, too", x.about(6), 4);
+        ForestLegs y = Check.told("course a 1;runner p a 5 20:1 10");
+        check.refused("41: the only punch is before that", y, y.start(0, 11), 5);
+        check.answered("41: the only punch is then", y, y.start(0, 10), 5);
     }
 
     private static void finish() {
@@ -109,6 +112,9 @@ final class ActsTest {
         check.due("42: its split", x.split(1, 5, 0), 9989);
         check.answered("42: without punches", x, x.finish(5, 61), 160);
         check.due("42: total of it", x.runner(5, 3), 1);
+        ForestLegs y = Check.told("course a 1;runner p a 5 20:1 10");
+        check.refused("42: the only punch is behind that", y, y.finish(0, 9), 5);
+        check.answered("42: the only punch is then", y, y.finish(0, 10), 20);
     }
 
     private static void move() {
@@ -193,6 +199,10 @@ final class ActsTest {
         check.answered("46: the last", x, x.cancel(0, 1), 1);
         check.due("46: code 0", x.code(0, 0), 40);
         check.refused("46: the only one left", x, x.cancel(0, 0), 5);
+        ForestLegs y = Check.told("course a 1,2,1,3");
+        check.refused("46: those beside the second are alike", y, y.cancel(0, 1), 5);
+        check.answered("46: those beside the third aren't", y, y.cancel(0, 2), 3);
+        check.answered("46: nor those beside the second now", y, y.cancel(0, 1), 2);
     }
 
     private static void undone(String what, ForestLegs x, String was, int act) {

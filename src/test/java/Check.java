@@ -30,11 +30,12 @@ final class Check {
         due(what + ": where()", x.where(), ForestLegs.NONE);
     }
 
-    /** The call wasn't refused. */
+    /** The call wasn't refused; behind it another one is, so that the next answer has to clear that. */
     void answered(String what, ForestLegs x, int got, int want) {
         due(what, got, want);
         due(what + ": trouble()", x.trouble(), 0);
         due(what + ": where()", x.where(), ForestLegs.NONE);
+        due("about(99) behind " + what, x.about(99), ForestLegs.NONE);
     }
 
     /** The TEXT has that FAULT at that place. */

@@ -44,6 +44,9 @@ final class CoursesTest {
         check.refused("38: common(0, 3)", x, x.common(0, 3), 1);
         check.refused("38: common(-1, 0)", x, x.common(-1, 0), 1);
         check.refused("38: common(0, -1)", x, x.common(0, -1), 1);
+        ForestLegs z = Check.told("course a 1,2,1,2,1,2;course b 3,1,2,1");
+        check.due("38: alike in both codes once", z.common(0, 1), 2);
+        check.due("38: the other way round", z.common(1, 0), 2);
         ForestLegs y = Check.told("course a 1,2;course b 2,1");
         check.due("38: the other way round is another pair", y.common(0, 1), 0);
         y.recode(1, 0, 5);

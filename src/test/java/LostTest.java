@@ -57,6 +57,17 @@ final class LostTest {
         check.due("22: legs of best 0 don't count", z.pace(1, 0) * 100 + z.pace(1, 1), 2209);
         ForestLegs w = Check.told("course a 1;runner p a 0 9:1 9;runner q a 0 5:1 0");
         check.refused("22: all of best 0", w, w.pace(0, 0), 6);
+        // eleven legs, best 10 each; those of q 16 10 10 10 10 11 12 13 14 15 15, the middle of them 12
+        ForestLegs u = Check.told("slack 3;course a 1,2,3,4,5,6,7,8,9,10;"
+            + "runner p a 0 110:1 10,2 20,3 30,4 40,5 50,6 60,7 70,8 80,9 90,10 100;"
+            + "runner q a 0 136:1 16,2 26,3 36,4 46,5 56,6 67,7 79,8 92,9 106,10 121");
+        check.due("22: the middle one of eleven", u.pace(1, 0) * 100 + u.pace(1, 1), 605);
+        check.due("23: the first and the last leg", u.mistakes(1), 1 + 512 + 1024);
+        check.due("24: without them", u.clean(1), 136 - 4 - 3 - 3);
+        check.due("27: the hardest leg is the first", u.hardest(0, 0) * 100 + u.hardest(0, 1), 6);
+        u.finish(1, 138);
+        check.due("27: the hardest leg is the last", u.hardest(0, 0) * 100 + u.hardest(0, 1), 1007);
+        check.due("21: the worst leg is the last", u.worst(1), 10);
         // 9999 to 9998 and back is as large as it can be
         ForestLegs v = Check.told("course a 1;runner p a 0 9998:1 9997;runner q a 0 9999:1 9998");
         check.due("22: large ones", v.pace(1, 0) + v.pace(1, 1), 2);
@@ -92,6 +103,10 @@ final class LostTest {
         check.due("15: slack 0, and just due", x.leg(1, 1, 3), 0);
         check.due("15: slack 0", x.leg(1, 2, 3), 4);
         check.due("23: slack 0, and just due", x.mistakes(1), 4);
+        ForestLegs t = Check.told("slack 0;course a 1,2;runner p a 0 3:1 1,2 2;runner q a 0 4:1 1,2 2");
+        check.due("15: best 1, and one more", t.leg(1, 2, 3), 1);
+        check.due("23: a mistake of 1", t.mistakes(1), 4);
+        check.due("24: a mistake of 1", t.clean(1), 3);
         // best 10 5 10, q 15 8 15: paces 3/2 8/5 3/2, the middle 3/2: due 15 7 (of 7.5) 15
         ForestLegs y = Check.told("slack 1;course a 1,2;runner p a 0 25:1 10,2 15;runner q a 0 38:1 15,2 23");
         check.due("pace", y.pace(1, 0) * 10 + y.pace(1, 1), 32);

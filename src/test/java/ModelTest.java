@@ -49,9 +49,10 @@ final class ModelTest {
         int step = 1 + draw(30);
         StringBuilder row = new StringBuilder();
         int punches = 0;
+        int strays = chance(25) ? 60 : 12;
         for (int code : codesOfCourse) {
-            for (int more = 0; more < 3 && punches < 16; more++) {
-                boolean stray = chance(12);
+            for (int more = 0; more < 4 && punches < 16; more++) {
+                boolean stray = chance(strays);
                 if (more == 0 ? chance(10) : !stray) {
                     continue;
                 }

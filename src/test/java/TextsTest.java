@@ -86,9 +86,24 @@ final class TextsTest {
         check.due("3: no act can be undone", x.about(6), 0);
         check.due("3: gap is as untold again", x.about(2), 10);
         check.refused("3: undo", x, x.undo(), 5);
+        cut("course a 123", 11, 0, -1, 12);
+        cut("course a 1;gap 12345", 18, 0, -1, 1);
+        cut("course abcdef 1", 9, 1, 9, -1);
+        cut("course abcdefg 1", 13, 1, 13, -1);
+        cut("courses", 6, 1, 6, -1);
         String full = "course a 1" + Check.repeat(" ", 880) + ",2,3,4,5,6";
         check.due("3: a text of 900 bytes", full.length(), 900);
         check.sound(full, 0);
+    }
+
+    /** What lies behind the first n bytes doesn't count, though it stands together with them. */
+    private static void cut(String tape, int n, int fault, int place, int code) {
+        ForestLegs x = new ForestLegs();
+        Check.feed(x, tape);
+        x.text(n);
+        check.due("3: fault() of " + n + " bytes of '" + tape + "'", x.fault(), fault);
+        check.due("3: where() of " + n + " bytes of '" + tape + "'", x.where(), place);
+        check.due("3: code(0, 0) of " + n + " bytes of '" + tape + "'", x.code(0, 0), code);
     }
 
     private static void faultAndWhere() {
