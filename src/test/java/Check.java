@@ -1,25 +1,48 @@
+import java.io.IOException;
+import java.lang.reflect.InvocationTargetException;
+import java.lang.reflect.Method;
 import java.nio.charset.StandardCharsets;
+import java.nio.file.Files;
+import java.nio.file.Path;
 import java.util.Arrays;
 import java.util.NoSuchElementException;
 
 /** Counts what isn't as due; the same for all tests of the project. */
 final class Check {
+    private static final Path DOCUMENT = Path.of("../shared/DOC.md");
+
     private int asked = 0;
     private int wrong = 0;
+    private String sentence = "";
+
+    /** What follows looks at these words of the document, which have to stand there, if it can be read here. */
+    void says(String words) {
+        sentence = "\"" + words + "\": ";
+        String document = plain(document());
+        due("the document says so", document.isEmpty() || document.contains(plain(words)) ? 1 : 0, 1);
+    }
+
+    private static String plain(String words) {
+        return words.replaceAll("[`\\s]+", " ");
+    }
+
+    private static String document() {
+        try {
+            return Files.isReadable(DOCUMENT) ? Files.readString(DOCUMENT) : "";
+        } catch (IOException e) {
+            return "";
+        }
+    }
 
     void due(String what, long got, long want) {
-        asked++;
-        if (got != want) {
-            wrong++;
-            System.out.println(what + " answered " + got + ", due is " + want);
-        }
+        due(what, Long.toString(got), Long.toString(want));
     }
 
     void due(String what, String got, String want) {
         asked++;
         if (!got.equals(want)) {
             wrong++;
-            System.out.println(what + " answered " + got + ", due is " + want);
+            System.out.println(sentence + what + " answered " + got + ", due is " + want);
         }
     }
 
@@ -60,6 +83,17 @@ final class Check {
             return x.named(n, course);
         } catch (NoSuchElementException e) {
             return -1000;
+        }
+    }
+
+    /** Calls without looking at the answer, also where named() throws. */
+    static void quietly(Method method, ForestLegs x, Object[] values) throws IllegalAccessException {
+        try {
+            method.invoke(x, values);
+        } catch (InvocationTargetException e) {
+            if (!(e.getCause() instanceof NoSuchElementException)) {
+                throw new IllegalStateException(method + " threw", e.getCause());
+            }
         }
     }
 
