@@ -1,8 +1,13 @@
+import java.lang.reflect.Method;
+import java.lang.reflect.Modifier;
+import java.util.Set;
+
 /** Boundary cases of promises 39 to 47 and of Terms III: acts, those that are kept, those that are not any more. */
 final class ActsEdgesTest {
     private static final Check check = new Check();
+    private static final Set<String> ACTS = Set.of("add", "drop", "start", "finish", "move", "become", "recode", "cancel");
 
-    public static void main(String[] args) {
+    public static void main(String[] args) throws Exception {
         placeOfAdd();
         numbersOfAdd();
         roomOfAdd();
@@ -13,6 +18,7 @@ final class ActsEdgesTest {
         become();
         recode();
         cancel();
+        callsThatSaySo();
         latestTen();
         refusedOnesDontCount();
         keptOnesComeRound();
@@ -243,6 +249,40 @@ final class ActsEdgesTest {
         check.answered("one of two", y, y.cancel(0, 1), 1);
         ForestLegs z = Check.told("course a 1,2");
         check.answered("the first of two", z, z.cancel(0, 0), 1);
+    }
+
+    private static void callsThatSaySo() throws Exception {
+        check.says("ACTS (calls that say so)");
+        for (Method method : ForestLegs.class.getDeclaredMethods()) {
+            String name = method.getName();
+            if (!Modifier.isPublic(method.getModifiers()) || name.equals("text") || name.equals("undo")) {
+                continue;
+            }
+            ForestLegs x = Check.told("course a 1,2,1;course b 1;runner p a 0 9:1 1,2 2,1 3;runner q a 0 9:1 1");
+            x.become(0, 5);
+            x.become(0, 6);
+            String was = without6(Check.state(x));
+            Object[] values = new Object[method.getParameterCount()];
+            for (int i = 0; i < values.length; i++) {
+                values[i] = method.getParameterTypes()[i] == boolean.class ? (Object) true : (Object) Math.min(i, 1);
+            }
+            // most calls take 0, 1, 1; these don't
+            switch (name) {
+                case "packs", "pack", "over" -> values[0] = 1;
+                case "cancel" -> values[1] = 0;
+                case "finish" -> values[1] = 5;
+                case "recode" -> values[2] = 3;
+                default -> {
+                }
+            }
+            Check.quietly(method, x, values);
+            boolean act = ACTS.contains(name);
+            check.due(name + " is taken", name.equals("feed") || x.trouble() == 0 ? 1 : 0, 1);
+            check.due("acts behind " + name, x.about(6), act ? 3 : 2);
+            check.due(name + " changes something", without6(Check.state(x)).equals(was) ? 0 : 1,
+                act && !name.equals("become") ? 1 : 0);
+            check.due("undo() behind " + name, x.undo(), act ? 2 : 1);
+        }
     }
 
     private static void latestTen() {

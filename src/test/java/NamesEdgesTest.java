@@ -127,6 +127,13 @@ final class NamesEdgesTest {
         check.due("six letters of no runner", Check.named(x, 6, false), NO_SUCH);
         check.due("seven letters", Check.named(x, 7, true), NO_SUCH);
         check.due("five letters", Check.named(x, 5, true), NO_SUCH);
+        for (char letter = 'a'; letter <= 'z'; letter++) {
+            ForestLegs y = with(letter + "abcdef" + Check.repeat(" ", 13) + Check.repeat(String.valueOf(letter), 14) + "abcdef");
+            check.due("a letter ahead of six: " + letter, Check.named(y, 7, true), NO_SUCH);
+            check.due("many: " + letter, Check.named(y, 40, true), NO_SUCH);
+            ForestLegs z = with(Check.repeat(String.valueOf(letter), 14) + "abcdef");
+            check.due("many letters ahead of six: " + letter, Check.named(z, 20, true), NO_SUCH);
+        }
         for (String word : new String[] {"course", "runner", "gap", "slack"}) {
             ForestLegs y = with(word);
             check.due(word, Check.named(y, word.length(), true), NO_SUCH);

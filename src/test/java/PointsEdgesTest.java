@@ -233,7 +233,7 @@ final class PointsEdgesTest {
     }
 
     private static void mistakeWhereBestIsNothing() {
-        check.says("MISTAKE (3; -2 also where BEST is 0); -2: he hasn't it");
+        check.says("LEG TIME (what 0), PLACE on the LEG (1), LOST (2), MISTAKE (3; -2 also where BEST is 0); -2: he hasn't it");
         ForestLegs x = Check.told("slack 0;course a 1,2;runner p a 0 90:1 0,2 10;runner q a 0 90:1 30,2 45");
         check.answered("best is 0, he is the best", x, x.leg(0, 0, 3), -2);
         check.answered("best is 0, he isn't", x, x.leg(1, 0, 3), -2);
@@ -245,7 +245,10 @@ final class PointsEdgesTest {
         x.drop(0, 0);
         check.answered("best is 1 now", x, x.leg(0, 0, 3), 0);
         ForestLegs y = Check.told("course a 1;runner p a 0 9");
-        check.answered("he hasn't it", y, y.leg(0, 0, 3), -2);
+        for (int what = 0; what < 4; what++) {
+            check.answered("he hasn't it, what " + what, y, y.leg(0, 0, what), -2);
+            check.answered("nor the last one, what " + what, y, y.leg(0, 1, what), -2);
+        }
     }
 
     private static void changes() {

@@ -151,7 +151,7 @@ final class TapeEdgesTest {
     }
 
     private static void placeOfEachByte() {
-        check.says("of each number the highest first");
+        check.says("of each number the highest first: how many it has");
         for (int at = 0; at < 40; at++) {
             for (int sign : new int[] {0, 1, 127, 128, 254, 255}) {
                 int[] ten = new int[10];

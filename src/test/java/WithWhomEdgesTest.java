@@ -383,6 +383,13 @@ final class WithWhomEdgesTest {
         check.answered("he has them all himself", y, y.mate(2), 0);
         y.drop(2, 0);
         check.answered("no team", y, y.mate(2), -2);
+        // the best is neither the first nor the last: with q 20 + 15, with s 10 + 15, with t 18 + 15
+        ForestLegs z = Check.told("course a 1;runner p a 0 35:1 20;runner q a 0 50:1 20;runner s a 0 50:1 10;runner t a 0 50:1 18");
+        check.answered("the best in the middle", z, z.mate(0), 2);
+        z.drop(2, 0);
+        check.answered("then the last", z, z.mate(0), 3);
+        z.drop(3, 0);
+        check.answered("then the first", z, z.mate(0), 1);
         StringBuilder all = new StringBuilder("course z 1");
         for (int r = 0; r < 10; r++) {
             all.append(";runner ").append((char) ('a' + r)).append(" z 0 40:1 20");
@@ -396,7 +403,7 @@ final class WithWhomEdgesTest {
     }
 
     private static void passes() {
-        check.says("of two POINTS one behind the other TAKEN by both the first one is behind (its TIME greater) at the first "
+        check.says("How often a RUNNER comes by another one: of two POINTS one behind the other TAKEN by both the first one is behind (its TIME greater) at the first "
             + "and ahead (lesser) at the second");
         for (int at = -1; at <= 1; at++) {
             for (int then = -1; then <= 1; then++) {
@@ -437,7 +444,7 @@ final class WithWhomEdgesTest {
     }
 
     private static void crowd() {
-        check.says("the most there are at any TIME (START, not FINISH, counts), of all (what 0); the first such TIME (1)");
+        check.says("RUNNERS at the same time in the forest: the most there are at any TIME (START, not FINISH, counts), of all (what 0); the first such TIME (1)");
         crowd("course a 1;runner p a 0 1", 1, 0);
         crowd("course a 1;runner p a 9998 9999", 1, 9998);
         crowd("course a 1;runner p a 5 9;runner q a 9 12", 1, 5);
@@ -485,6 +492,15 @@ final class WithWhomEdgesTest {
         over(x, 99, 1, 15, 1);
         x.drop(1, 1);
         over(x, 99, 1, -2, -2);
+        // the fastest is neither the first nor the last
+        ForestLegs w = Check.told("course a 1,2;runner p a 0 99:1 0,2 30;runner q a 0 99:1 0,2 20;runner s a 0 99:1 0,2 10;runner t a 0 99:1 0,2 20");
+        over(w, 1, 2, 10, 2);
+        w.drop(2, 0);
+        over(w, 1, 2, 20, 1);
+        w.drop(1, 0);
+        over(w, 1, 2, 20, 3);
+        w.drop(3, 0);
+        over(w, 1, 2, 30, 0);
         // neither from the start nor to the finish
         ForestLegs y = Check.told("course a 1,2;runner p a 0 9:1 5,2 5;runner q a 0 9999:1 0,2 9999");
         over(y, 1, 2, 0, 0);
