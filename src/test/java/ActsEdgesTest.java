@@ -5,6 +5,7 @@ import java.util.Set;
 /** Boundary cases of promises 39 to 47 and of Terms III: acts, those that are kept, those that are not any more. */
 final class ActsEdgesTest {
     private static final Check check = new Check();
+    private static final Set<String> OTHERS = Set.of("feed", "text", "named", "undo", "trouble", "size", "fault", "where");
     private static final Set<String> ACTS = Set.of("add", "drop", "start", "finish", "move", "become", "recode", "cancel");
 
     public static void main(String[] args) throws Exception {
@@ -24,6 +25,7 @@ final class ActsEdgesTest {
         keptOnesComeRound();
         textLeavesNone();
         undoOfEachKind();
+        undoForEachCall();
         undoBringsBackPlaces();
         answersFollow();
         check.end();
@@ -414,6 +416,49 @@ final class ActsEdgesTest {
             case 7 -> x.start(2, 0);
             case 8 -> x.finish(2, 9999);
             default -> x.recode(2, 0, 1);
+        }
+    }
+
+    /** Each act, then undo(): each call answers as if there had been no act. */
+    private static void undoForEachCall() throws Exception {
+        check.says("The latest ACT is undone");
+        String text = "gap 2;slack 1;course a 1,2,3,1,2;course b 3,2;course c 5;runner p a 0 90:1 20,2 40,3 60,1 70,2 80;"
+            + "runner q a 5 95:1 21,2 50,3 61,1 70;runner s b 10 80:3 30,2 50;runner t a 5 99:1 22,2 41,3 80,1 81,2 82";
+        for (Method method : ForestLegs.class.getDeclaredMethods()) {
+            String name = method.getName();
+            if (!Modifier.isPublic(method.getModifiers()) || ACTS.contains(name) || OTHERS.contains(name)) {
+                continue;
+            }
+            String due = Check.answers(Check.told(text), method);
+            for (int act = 0; act < 9; act++) {
+                ForestLegs x = Check.told(text);
+                check.due("act " + act + " is refused", actOnSome(x, act) == -1 ? 1 : 0, 0);
+                check.due("undo()", x.undo(), 0);
+                check.due("behind undo() of act " + act, Check.answers(x, method), due);
+            }
+        }
+    }
+
+    private static int actOnSome(ForestLegs x, int act) {
+        switch (act) {
+            case 0:
+                return x.drop(0, 2);
+            case 1:
+                return x.add(1, 2, 75);
+            case 2:
+                return x.cancel(0, 2);
+            case 3:
+                return x.recode(0, 4, 5);
+            case 4:
+                return x.move(0, 1);
+            case 5:
+                return x.start(3, 0);
+            case 6:
+                return x.finish(0, 82);
+            case 7:
+                return x.become(0, 600);
+            default:
+                return x.become(1, 600);
         }
     }
 

@@ -158,6 +158,22 @@ final class Check {
         return all.toString();
     }
 
+    /** What a call that changes nothing answers to all numbers from -1 to 5, in all its places. */
+    static String answers(ForestLegs x, Method method) throws ReflectiveOperationException {
+        int places = method.getParameterCount();
+        StringBuilder all = new StringBuilder(method.getName());
+        Object[] values = new Object[places];
+        for (int round = 0; round < Math.round(Math.pow(7, places)); round++) {
+            int rest = round;
+            for (int i = 0; i < places; i++) {
+                values[i] = rest % 7 - 1;
+                rest /= 7;
+            }
+            all.append(' ').append(method.invoke(x, values));
+        }
+        return all.toString();
+    }
+
     static String repeat(String what, int times) {
         String[] row = new String[times];
         Arrays.fill(row, what);

@@ -10,6 +10,10 @@ final class TapeEdgesTest {
     /** The calls of which no number of TROUBLE is told. */
     private static final Set<String> NEVER_REFUSED = Set.of("feed", "fault", "where", "named", "size", "trouble");
 
+    /** The calls that aren't asked whether others have left something behind. */
+    private static final Set<String> CHANGING = Set.of("feed", "text", "named", "add", "drop", "start", "finish", "move",
+        "become", "recode", "cancel", "undo", "trouble");
+
     public static void main(String[] args) throws Exception {
         newObject();
         tapeUpToFull();
@@ -23,6 +27,7 @@ final class TapeEdgesTest {
         textOfNoBytes();
         tapeIsEmptyThen();
         allIsGone();
+        allIsGoneForEachCall();
         howManyRunners();
         faultStays();
         whereIsTold();
@@ -267,6 +272,34 @@ final class TapeEdgesTest {
         x.text(0);
         check.due("the first text again", Check.tell(x, full), 3);
         check.due("is as in a new object", Check.state(x), Check.state(Check.told(full)));
+    }
+
+    /** Behind a large text each call answers to a small one as if there had been no other. */
+    private static void allIsGoneForEachCall() throws Exception {
+        check.says("all that there was is gone");
+        StringBuilder large = new StringBuilder("gap 0;slack 0;course a 1,2,3,4,5,1,2,3,4,5;course b 2,1,2;course c 1,2,3");
+        for (int r = 0; r < 10; r++) {
+            large.append(";runner ").append((char) ('p' + r)).append(r % 2 == 0 ? " a" : " c").append(" 0 60:1 1,2 2,3 3,4 4,5 5");
+        }
+        String[] small = {"course a 1,2,3;course b 3,2;runner p a 0 90:1 20,2 40,3 60;runner q a 5 95:1 21,2 50,3 61;runner s b 10 80:3 30,2 50",
+            "course a 1;runner p a 7 9", "course a 5,4,3,2,1"};
+        for (String text : small) {
+            for (Method method : ForestLegs.class.getDeclaredMethods()) {
+                if (!Modifier.isPublic(method.getModifiers()) || CHANGING.contains(method.getName())) {
+                    continue;
+                }
+                ForestLegs x = Check.told(large.toString());
+                Check.tell(x, text);
+                check.due("behind a large text", Check.answers(x, method), Check.answers(Check.told(text), method));
+                // a faulty text that tells as much leaves nothing either
+                ForestLegs y = new ForestLegs();
+                Check.tell(y, large + ";?");
+                Check.tell(y, text);
+                y.about(0);
+                check.due("behind a large faulty text, fault()", y.fault(), 0);
+                check.due("behind a large faulty text", Check.answers(y, method), Check.answers(Check.told(text), method));
+            }
+        }
     }
 
     private static void howManyRunners() {

@@ -493,7 +493,8 @@ final class WithWhomEdgesTest {
         x.drop(1, 1);
         over(x, 99, 1, -2, -2);
         // the fastest is neither the first nor the last
-        ForestLegs w = Check.told("course a 1,2;runner p a 0 99:1 0,2 30;runner q a 0 99:1 0,2 20;runner s a 0 99:1 0,2 10;runner t a 0 99:1 0,2 20");
+        ForestLegs w = Check.told("course a 1,2;runner p a 0 99:1 0,2 30;runner q a 0 99:1 0,2 20;runner s a 0 99:1 0,2 10;"
+            + "runner t a 0 99:1 0,2 20");
         over(w, 1, 2, 10, 2);
         w.drop(2, 0);
         over(w, 1, 2, 20, 1);
