@@ -1,6 +1,10 @@
 import com.sun.source.tree.AssertTree;
 import com.sun.source.tree.ClassTree;
 import com.sun.source.tree.CompilationUnitTree;
+import com.sun.source.tree.DoWhileLoopTree;
+import com.sun.source.tree.ForLoopTree;
+import com.sun.source.tree.ImportTree;
+import com.sun.source.tree.InstanceOfTree;
 import com.sun.source.tree.LambdaExpressionTree;
 import com.sun.source.tree.MemberReferenceTree;
 import com.sun.source.tree.MethodInvocationTree;
@@ -11,7 +15,9 @@ import com.sun.source.tree.SynchronizedTree;
 import com.sun.source.tree.ThrowTree;
 import com.sun.source.tree.Tree;
 import com.sun.source.tree.TryTree;
+import com.sun.source.tree.TypeCastTree;
 import com.sun.source.tree.VariableTree;
+import com.sun.source.tree.WhileLoopTree;
 import com.sun.source.util.JavacTask;
 import com.sun.source.util.SourcePositions;
 import com.sun.source.util.TreePathScanner;
@@ -34,6 +40,8 @@ final class LanguageTest {
     private static final String SOURCE = "src/main/java/ForestLegs.java";
     private static final Set<String> LIBRARY = Set.of("Math.max", "Math.min", "Math.abs", "System.arraycopy", "Arrays.fill",
         "Object.<init>", "NoSuchElementException.<init>");
+    private static final Set<String> IMPORTS = Set.of("java.util.Arrays", "java.util.NoSuchElementException");
+    private static final Set<String> TYPES = Set.of("int", "boolean", "int[]");
     private static final Check check = new Check();
 
     private static CompilationUnitTree unit;
@@ -51,6 +59,7 @@ final class LanguageTest {
             trees = Trees.instance(task);
             new Rules().scan(unit, null);
         }
+        check.due("no package", unit.getPackageName() == null ? 1 : 0, 1);
         check.due("rule 11: classes, at most 12", classes <= 12 ? 1 : 0, 1);
         check.due("calls were found", calls.size() > 100 ? 1 : 0, 1);
         for (Element method : calls.keySet()) {
@@ -162,6 +171,55 @@ final class LanguageTest {
                 none("an array made by a call", tree);
             }
             return super.visitNewArray(tree, nothing);
+        }
+
+        @Override
+        public Void visitImport(ImportTree tree, Void nothing) {
+            String name = tree.getQualifiedIdentifier().toString();
+            check.due("rule 4: import " + name, !tree.isStatic() && IMPORTS.contains(name) ? 1 : 0, 1);
+            return super.visitImport(tree, nothing);
+        }
+
+        /** No text, list, long or double is needed here: ints, booleans, rows of ints and classes of its own. */
+        @Override
+        public Void visitVariable(VariableTree tree, Void nothing) {
+            String type = trees.getTypeMirror(getCurrentPath()).toString();
+            boolean fine = TYPES.contains(type) || type.startsWith("ForestLegs.");
+            check.due("rule 3: " + type + " " + tree.getName(), fine ? 1 : 0, 1);
+            return super.visitVariable(tree, nothing);
+        }
+
+        @Override
+        public Void visitForLoop(ForLoopTree tree, Void nothing) {
+            boolean bound = tree.getCondition() != null && tree.getUpdate().size() == 1;
+            check.due("rule 9: for (..; " + tree.getCondition() + "; ..)", bound ? 1 : 0, 1);
+            return super.visitForLoop(tree, nothing);
+        }
+
+        /** The counter against its bound stands first, so that the end is seen at once. */
+        @Override
+        public Void visitWhileLoop(WhileLoopTree tree, Void nothing) {
+            String condition = tree.getCondition().toString();
+            check.due("rule 9: while " + condition, condition.matches("\\(\\w+ [<>]=? \\w+( && .*)?\\)") ? 1 : 0, 1);
+            return super.visitWhileLoop(tree, nothing);
+        }
+
+        @Override
+        public Void visitDoWhileLoop(DoWhileLoopTree tree, Void nothing) {
+            none("rule 9: do", tree);
+            return null;
+        }
+
+        @Override
+        public Void visitTypeCast(TypeCastTree tree, Void nothing) {
+            none("rule 6: cast", tree);
+            return null;
+        }
+
+        @Override
+        public Void visitInstanceOf(InstanceOfTree tree, Void nothing) {
+            none("rule 6: instanceof", tree);
+            return null;
         }
 
         @Override
